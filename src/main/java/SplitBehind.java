@@ -262,7 +262,7 @@ public final class SplitBehind {
         }
         if (asksKey) {
             int slot = what - 10;
-            return slot < chains.filled[page] ? chains.key[page * SLOTS + slot] : NOT_SO_MANY;
+            return slot < chains.filled[page] ? Entry.keyOf(chains.slots[page * SLOTS + slot]) : NOT_SO_MANY;
         }
         if (what == 0) {
             return chains.owner[page];
@@ -305,12 +305,13 @@ public final class SplitBehind {
         if (file.isFull()) {
             return CANT;
         }
+        Chains chains = file.chains;
         int seen = 0;
-        file.chains.gather(file.pointer);
-        for (int h = 0; h < file.chains.held; h++) {
-            if (file.addressAmong(file.chains.heldHash[h], file.buckets() + 1) != file.pointer) {
+        chains.gather(file.pointer);
+        for (int h = 0; h < chains.heldMany; h++) {
+            if (file.goesAtNextSplit(chains.held[h])) {
                 if (seen == i) {
-                    return file.chains.heldKey[h];
+                    return Entry.keyOf(chains.held[h]);
                 }
                 seen++;
             }
@@ -418,9 +419,9 @@ public final class SplitBehind {
         int ahead = kind == 0 ? old : fresh;
         int many = 0;
         int stay = 0;
-        for (int i = 0; i < spare.chains.held; i++) {
+        for (int i = 0; i < spare.chains.heldMany; i++) {
             // held are the keys of the old bucket as it was, and both new chains have them in that order
-            boolean stays = spare.addressOf(spare.chains.heldHash[i]) == old;
+            boolean stays = !file.goesAtNextSplit(spare.chains.held[i]);
             int goesTo = stays ? spare.chains.pageOfKey(old, stay) : spare.chains.pageOfKey(fresh, i - stay);
             stay += stays ? 1 : 0;
             boolean standsInOld = !isWritten(file.chains.pageOfKey(old, i), ahead, w);
@@ -690,8 +691,9 @@ public final class SplitBehind {
         if (!file.scans.isOpen(s)) {
             return NONE;
         }
-        file.scans.open[s] = false;
-        return file.scans.told[s];
+        int told = file.scans.told[s];
+        file.scans.close(s);
+        return told;
     }
 
     public boolean seed(int x) {
@@ -1160,26 +1162,44 @@ public final class SplitBehind {
         }
     }
 
+    /** A key with its value and its hash, as one number: a page's slot is one element then. */
+    private static final class Entry {
+        private Entry() {
+        }
+
+        static long of(int key, int value, int hash) {
+            return (long) hash << 24 | (long) key << 8 | value;
+        }
+
+        static int keyOf(long entry) {
+            return (int) (entry >> 8 & TOP);
+        }
+
+        static int valueOf(long entry) {
+            return (int) (entry & TOP_VALUE);
+        }
+
+        static int hashOf(long entry) {
+            return (int) (entry >> 24 & TOP);
+        }
+    }
+
     /**
-     * Buckets as chains of pages. Key i of a bucket stands in page i / room of its chain, so that
-     * a page's slot has a number of its own: the page times SLOTS and its place in the page.
+     * Buckets as chains of pages. Key i of a bucket stands in page i / room of its chain. Each slot
+     * of each page has a number of its own: the page times SLOTS and the place in the page.
      */
     private static final class Chains {
         final int[] owner = new int[PAGES];
         final int[] place = new int[PAGES];
         final int[] filled = new int[PAGES];
         private final int[] following = new int[PAGES];
-        final int[] key = new int[PAGES * SLOTS];
-        final int[] value = new int[PAGES * SLOTS];
-        final int[] hash = new int[PAGES * SLOTS];
+        final long[] slots = new long[PAGES * SLOTS];
         private final int[] firstPage = new int[BUCKETS];
         private final int[] lastPage = new int[BUCKETS];
         final int[] keysIn = new int[BUCKETS];
         final int[] pagesIn = new int[BUCKETS];
-        final int[] heldKey = new int[KEYS];
-        final int[] heldValue = new int[KEYS];
-        final int[] heldHash = new int[KEYS];
-        int held = 0;
+        final long[] held = new long[KEYS];
+        int heldMany = 0;
         int room = 3;
 
         void clear(int newRoom, int buckets) {
@@ -1200,9 +1220,7 @@ public final class SplitBehind {
             System.arraycopy(other.place, 0, place, 0, PAGES);
             System.arraycopy(other.filled, 0, filled, 0, PAGES);
             System.arraycopy(other.following, 0, following, 0, PAGES);
-            System.arraycopy(other.key, 0, key, 0, PAGES * SLOTS);
-            System.arraycopy(other.value, 0, value, 0, PAGES * SLOTS);
-            System.arraycopy(other.hash, 0, hash, 0, PAGES * SLOTS);
+            System.arraycopy(other.slots, 0, slots, 0, PAGES * SLOTS);
             System.arraycopy(other.firstPage, 0, firstPage, 0, BUCKETS);
             System.arraycopy(other.lastPage, 0, lastPage, 0, BUCKETS);
             System.arraycopy(other.keysIn, 0, keysIn, 0, BUCKETS);
@@ -1232,8 +1250,8 @@ public final class SplitBehind {
             return page;
         }
 
-        /** Lays a key behind the last one: whether that took a new page. */
-        boolean append(int bucket, int newKey, int newValue, int newHash) {
+        /** Lays an entry behind the last one: whether that took a new page. */
+        boolean append(int bucket, long entry) {
             int page = lastPage[bucket];
             boolean isNew = page == NONE || filled[page] >= room;
             if (isNew) {
@@ -1242,22 +1260,19 @@ public final class SplitBehind {
             if (page == NONE) {
                 return false;
             }
-            int slot = page * SLOTS + filled[page];
-            key[slot] = newKey;
-            value[slot] = newValue;
-            hash[slot] = newHash;
+            slots[page * SLOTS + filled[page]] = entry;
             filled[page]++;
             keysIn[bucket]++;
             return isNew;
         }
 
         /** The slot in which a bucket has a key, or NONE. */
-        int slotOf(int bucket, int wanted) {
+        int slotOf(int bucket, int key) {
             int page = firstPage[bucket];
             for (int i = 0; i < pagesIn[bucket] && page != NONE; i++) {
                 int begin = page * SLOTS;
                 for (int slot = begin; slot < begin + filled[page]; slot++) {
-                    if (key[slot] == wanted) {
+                    if (Entry.keyOf(slots[slot]) == key) {
                         return slot;
                     }
                 }
@@ -1284,16 +1299,16 @@ public final class SplitBehind {
 
         int keyAt(int bucket, int i) {
             int page = pageOfKey(bucket, i);
-            return page == NONE ? NOT_SO_MANY : key[page * SLOTS + i % room];
+            return page == NONE ? NOT_SO_MANY : Entry.keyOf(slots[page * SLOTS + i % room]);
         }
 
-        /** Lays a bucket's last key over a slot of the bucket: whether it came from another page. */
+        /** Lays a bucket's last entry over a slot of the bucket: whether it came from another page. */
         boolean fillFromLast(int bucket, int slot) {
             int page = lastPage[bucket];
-            int from = page * SLOTS + filled[page] - 1;
-            key[slot] = key[from];
-            value[slot] = value[from];
-            hash[slot] = hash[from];
+            if (page == NONE || filled[page] == 0) {
+                return false;
+            }
+            slots[slot] = slots[page * SLOTS + filled[page] - 1];
             filled[page]--;
             keysIn[bucket]--;
             if (filled[page] == 0 && pagesIn[bucket] > 1) {
@@ -1313,16 +1328,14 @@ public final class SplitBehind {
             pagesIn[bucket]--;
         }
 
-        /** Holds a bucket's keys, in order, in the rows beside the pages. */
+        /** Holds a bucket's entries, in order, in the row beside the pages. */
         void gather(int bucket) {
-            held = 0;
+            heldMany = 0;
             int page = firstPage[bucket];
             for (int i = 0; i < pagesIn[bucket] && page != NONE; i++) {
-                int many = Math.min(filled[page], KEYS - held);
-                System.arraycopy(key, page * SLOTS, heldKey, held, many);
-                System.arraycopy(value, page * SLOTS, heldValue, held, many);
-                System.arraycopy(hash, page * SLOTS, heldHash, held, many);
-                held += many;
+                int many = Math.min(filled[page], KEYS - heldMany);
+                System.arraycopy(slots, page * SLOTS, held, heldMany, many);
+                heldMany += many;
                 page = following[page];
             }
         }
@@ -1477,31 +1490,35 @@ public final class SplitBehind {
         }
     }
 
-    /** For each scan whether it is open, how many keys it told, and the last one of them. */
+    /** For each scan how many keys it told (NONE: it is not open) and the last one of them. */
     private static final class Scans {
-        final boolean[] open = new boolean[SCANS];
         final int[] told = new int[SCANS];
         final int[] last = new int[SCANS];
 
+        Scans() {
+            Arrays.fill(told, NONE);
+        }
+
         void copyFrom(Scans other) {
-            System.arraycopy(other.open, 0, open, 0, SCANS);
             System.arraycopy(other.told, 0, told, 0, SCANS);
             System.arraycopy(other.last, 0, last, 0, SCANS);
         }
 
-        void endAll() {
-            for (int s = 0; s < SCANS; s++) {
-                open[s] = false;
-            }
+        void closeAll() {
+            Arrays.fill(told, NONE);
+        }
+
+        void close(int s) {
+            told[s] = NONE;
         }
 
         boolean isOpen(int s) {
-            return within(s, 0, SCANS - 1) && open[s];
+            return within(s, 0, SCANS - 1) && told[s] != NONE;
         }
 
         int lowestClosed() {
             for (int s = 0; s < SCANS; s++) {
-                if (!open[s]) {
+                if (told[s] == NONE) {
                     return s;
                 }
             }
@@ -1509,7 +1526,6 @@ public final class SplitBehind {
         }
 
         void begin(int s) {
-            open[s] = true;
             told[s] = 0;
             last[s] = NONE;
         }
@@ -1517,7 +1533,7 @@ public final class SplitBehind {
         int openOnes() {
             int many = 0;
             for (int s = 0; s < SCANS; s++) {
-                many += open[s] ? 1 : 0;
+                many += told[s] == NONE ? 0 : 1;
             }
             return many;
         }
@@ -1563,7 +1579,7 @@ public final class SplitBehind {
             joins = 0;
             order.size = 0;
             chains.clear(c, n);
-            scans.endAll();
+            scans.closeAll();
         }
 
         void copyFrom(HashFile other) {
@@ -1590,7 +1606,7 @@ public final class SplitBehind {
         }
 
         int buckets() {
-            return span() + pointer;
+            return (n << level) + pointer;
         }
 
         boolean isFull() {
@@ -1633,7 +1649,7 @@ public final class SplitBehind {
 
         int valueOf(int key) {
             int slot = chains.slotOf(addressOf(law.hashOf(key)), key);
-            return slot == NONE ? NOT_THERE : chains.value[slot];
+            return slot == NONE ? NOT_THERE : Entry.valueOf(chains.slots[slot]);
         }
 
         /** What a find costs, whether the key is there or not. */
@@ -1655,7 +1671,7 @@ public final class SplitBehind {
             int bucket = addressOf(law.hashOf(key));
             reads += readsFor(key, bucket);
             int slot = chains.slotOf(bucket, key);
-            return slot == NONE ? NOT_THERE : chains.value[slot];
+            return slot == NONE ? NOT_THERE : Entry.valueOf(chains.slots[slot]);
         }
 
         /** 1 if the key was there, 0 if not, CANT if there is no room for it. */
@@ -1664,14 +1680,14 @@ public final class SplitBehind {
             int bucket = addressOf(hash);
             long code = Order.codeOf(key, hash, n);
             if (order.has(code)) {
-                overwrite(bucket, key, value);
+                overwrite(bucket, key, Entry.of(key, value, hash));
                 return 1;
             }
             if (order.size >= KEYS) {
                 return CANT;
             }
             reads += chains.pagesIn[bucket];
-            boolean isNewPage = chains.append(bucket, key, value, hash);
+            boolean isNewPage = chains.append(bucket, Entry.of(key, value, hash));
             writes += isNewPage ? 2 : 1;
             order.insert(code);
             if (policy == BY_LOAD && load() > up || policy == BY_PAGES && isNewPage) {
@@ -1680,12 +1696,12 @@ public final class SplitBehind {
             return 0;
         }
 
-        private void overwrite(int bucket, int key, int value) {
+        private void overwrite(int bucket, int key, long entry) {
             int slot = chains.slotOf(bucket, key);
             if (slot != NONE) {
                 reads += chains.place[slot / SLOTS] + 1;
                 writes++;
-                chains.value[slot] = value;
+                chains.slots[slot] = entry;
             }
         }
 
@@ -1698,13 +1714,19 @@ public final class SplitBehind {
             if (slot == NONE) {
                 return NOT_THERE;
             }
-            int value = chains.value[slot];
+            int value = Entry.valueOf(chains.slots[slot]);
             writes += chains.fillFromLast(bucket, slot) ? 2 : 1;
             order.remove(Order.codeOf(key, hash, n));
             if (policy != BY_HAND && load() < down) {
                 unite();
             }
             return value;
+        }
+
+        /** Whether an entry of the bucket at the pointer goes to the new bucket. */
+        boolean goesAtNextSplit(long entry) {
+            int twice = 2 * span();
+            return twice > 0 && Entry.hashOf(entry) % twice != pointer;
         }
 
         /** A split: how many keys went, or CANT. */
@@ -1714,19 +1736,18 @@ public final class SplitBehind {
             }
             int old = pointer;
             int fresh = buckets();
-            int twice = 2 * span();
             reads += chains.pagesIn[old];
             chains.gather(old);
             chains.empty(old, true);
             chains.addPage(fresh);
-            for (int i = 0; i < chains.held; i++) {
-                if (chains.heldHash[i] % twice == old) {
-                    chains.append(old, chains.heldKey[i], chains.heldValue[i], chains.heldHash[i]);
+            for (int i = 0; i < chains.heldMany; i++) {
+                if (!goesAtNextSplit(chains.held[i])) {
+                    chains.append(old, chains.held[i]);
                 }
             }
-            for (int i = 0; i < chains.held; i++) {
-                if (chains.heldHash[i] % twice != old) {
-                    chains.append(fresh, chains.heldKey[i], chains.heldValue[i], chains.heldHash[i]);
+            for (int i = 0; i < chains.heldMany; i++) {
+                if (goesAtNextSplit(chains.held[i])) {
+                    chains.append(fresh, chains.held[i]);
                 }
             }
             writes += chains.pagesIn[old] + chains.pagesIn[fresh];
@@ -1753,12 +1774,12 @@ public final class SplitBehind {
             reads += chains.pagesIn[pointer] + chains.pagesIn[last];
             chains.gather(last);
             chains.empty(last, false);
-            for (int i = 0; i < chains.held; i++) {
-                chains.append(pointer, chains.heldKey[i], chains.heldValue[i], chains.heldHash[i]);
+            for (int i = 0; i < chains.heldMany; i++) {
+                chains.append(pointer, chains.held[i]);
             }
             writes += chains.pagesIn[pointer];
             joins++;
-            return chains.held;
+            return chains.heldMany;
         }
 
         private void draw() {

@@ -356,8 +356,9 @@ public final class SplitBehind {
 
     private void countAmong(int b) {
         Arrays.fill(perBucket, 0);
+        int span = file.spanAmong(b);
         for (int i = 0; i < file.order.size; i++) {
-            perBucket[file.addressAmong(file.hashAt(i), b)]++;
+            perBucket[HashFile.address(file.hashAt(i), span, b - span)]++;
         }
     }
 
@@ -1622,16 +1623,22 @@ public final class SplitBehind {
             return address(hash, span(), pointer);
         }
 
-        /** The address if there were b buckets. */
-        int addressAmong(int hash, int b) {
+        /** The span if there were b buckets. */
+        int spanAmong(int b) {
             int span = n;
             for (int i = 0; i < BUCKETS && span * 2 <= b; i++) {
                 span *= 2;
             }
+            return span;
+        }
+
+        /** The address if there were b buckets. */
+        int addressAmong(int hash, int b) {
+            int span = spanAmong(b);
             return address(hash, span, b - span);
         }
 
-        private static int address(int hash, int span, int pointer) {
+        static int address(int hash, int span, int pointer) {
             if (span < 1) {
                 return 0;
             }

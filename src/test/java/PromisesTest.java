@@ -248,8 +248,9 @@ public final class PromisesTest {
         due(5, "n 0", x.work(0), NONE);
         due(5, "n beyond the tape", x.work(21), NONE);
         due(5, "the tape stays", x.count(2), 20);
-        Texts.feed(x, "s;".repeat(50));
+        Texts.feed(x, "s;".repeat(60));
         due(5, "n 121", x.work(121), NONE);
+        due(5, "the tape stays then, too", x.count(2), 140);
         due(5, "120 bytes", Texts.work(new SplitBehind(), "p00001,001;".repeat(10) + "d00001;s;j"), 13);
     }
 

@@ -30,6 +30,7 @@ public final class LaterPromiseBoundsTest extends Sentences {
         one.put(39022, 0);
         int[] there = {1, 150, 2, 3, 2, 1};
         for (int what = 0; what <= 5; what++) due("by one that is there, what " + what, one.grown(1, what), there[what]);
+        due("by one that is in the fourth page", byHand(1, 2, "n0,6,1;p39022,0").grown(1, 4), 4);
     }
 
     @Says(promise = 23, words = "(Nothing stays changed.)")
@@ -172,6 +173,12 @@ public final class LaterPromiseBoundsTest extends Sentences {
         y.drop(10);
         due("3 again", y.alike(1), 3);
         due("all of them", y.alike(0), 9);
+        // in order, N 2: hash 5 stands ahead of hash 3
+        SplitBehind z = Texts.made(2, 3, 300, 0, 0, "k%10", "p3,0;p5,0;p15,0");
+        due("one of a lesser hash is not most", z.alike(1), 5);
+        due("two have 5", z.alike(2), 2);
+        z.put(13, 0);
+        due("two of a lesser hash are", z.alike(1), 3);
         SplitBehind full = Texts.made(2, 3, 300, 0, 0, "0", ALL_300);
         due("300: 0", full.alike(1), 0);
         due("300 have it", full.alike(2), 300);

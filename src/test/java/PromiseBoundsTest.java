@@ -111,6 +111,12 @@ public final class PromiseBoundsTest extends Sentences {
             due("the one before stays", x.keyIs(1, 0), 6);
             due("the tape is empty", x.count(2), 0);
         }
+        SplitBehind again = new SplitBehind();
+        for (String spoilt : new String[] {"(", "((((((", "~", "k+(k*", "<3r(k+", "k-", "(k-(k*"}) {
+            due("a fault of " + spoilt, Texts.law(again, spoilt), -1000 - spoilt.length());
+            due("a right one behind " + spoilt, Texts.law(again, "5+(k*2)"), 0);
+            due("it is in force", again.keyIs(10, 0), 25);
+        }
         SplitBehind y = new SplitBehind();
         Texts.feed(y, "k+k");
         due("the end at n, whatever stands behind it", y.law(2), -1002);
@@ -472,6 +478,7 @@ public final class PromiseBoundsTest extends Sentences {
         due("the most of 300", full.finds(1), 150);
         due("not there of 300", full.finds(2), 150);
         due("full pages alone", byHand(1, 2, "n0,4,1").finds(1), 2);
+        due("one key", byHand(1, 2, "p0,0").finds(1), 1);
     }
 
     @Says(promise = 18, words = "NEXT, i NONE how many, else the i-th (in order of the chain); -4: there are not so many")

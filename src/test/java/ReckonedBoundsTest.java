@@ -41,6 +41,10 @@ public final class ReckonedBoundsTest extends Sentences {
         Texts.work(x, "p7,0");
         due("one that came behind the last one", x.tell(3), 7);
         due("another scan goes by itself", x.tell(2), 0);
+        SplitBehind alike = Texts.made(2, 3, 300, 0, 0, "7", "n0,5,1");
+        alike.scan();
+        for (int i = 0; i < 5; i++) due("keys of one hash, " + i, alike.tell(0), i);
+        due("none more of one hash", alike.tell(0), -2);
     }
 
     @Says(promise = 0, words = "so it tells each KEY that is there all the time just once, whatever is PUT, DROPPED, SPLIT, JOINED between.")
@@ -218,6 +222,17 @@ public final class ReckonedBoundsTest extends Sentences {
         SplitBehind go = byHand(1, 2, "n1,4,2");
         tornRows("all go", go, 0, new int[] {0, 2, 2, 0}, new int[] {0, 0, 0, 0});
         tornRows("all go", go, 1, new int[] {0, 2, 0, 0}, new int[] {0, 2, 2, 0});
+        // N 2, pointer 1: was 13 57 9 in 1 2 3; bucket 2 has page 4, so that it would be 15 9 in 1 3 and 37 in 2
+        SplitBehind pointed = byHand(2, 2, "n1,5,2;s");
+        dueRow("bucket 2's page", pagesOf(pointed, 2), 4);
+        tornRows("pointer 1", pointed, 0, new int[] {0, 1, 1, 0}, new int[] {0, 1, 1, 0});
+        tornRows("pointer 1", pointed, 1, new int[] {0, 1, 0, 0}, new int[] {0, 1, 0, 0});
+        // pointer 2 of level 1: was 26 in 2; would be 2 in 2 and 6 in 6
+        SplitBehind last = byHand(2, 2, "p2,0;p6,0;s;s;s;s");
+        due("level", last.fileIs(5), 1);
+        due("pointer", last.fileIs(6), 2);
+        tornRows("pointer 2", last, 0, new int[] {0, 1, 0}, new int[] {0, 0, 0});
+        tornRows("pointer 2", last, 1, new int[] {0, 0, 0}, new int[] {0, 1, 0});
     }
 
     @Says(promise = 0, words = {"A PAGE that is written has the KEYS that it would have; another one those that it had, if it was of the old BUCKET, else none.",
@@ -316,15 +331,16 @@ public final class ReckonedBoundsTest extends Sentences {
 
     @Says(promise = 0, words = {"KEPT is all of THE FILE (THE LAW, SCANS, X, READS and WRITES, too)", "UNDONE: as it was KEPT last."})
     static void kept() {
-        SplitBehind x = Texts.made(2, 3, 80, 40, 1, "k*3", "n0,9,1;x2;g1");
+        SplitBehind x = Texts.made(2, 3, 80, 40, 1, "k*3", "n0,9,1;x2;g1;s;j;j");
         x.scan();
         x.tell(0);
+        due("joins", x.fileIs(16), 2);
         int[] file = new int[17];
         for (int i = 0; i < 17; i++) file[i] = x.fileIs(i);
         int[] order = inOrderOf(x);
         int drawn = x.count(3);
         x.keep();
-        Texts.work(x, "p0,99;y9;s;x5");
+        Texts.work(x, "p0,99;y9;s;x5;j;j;j");
         x.tell(0);
         x.scan();
         x.shape(4, 6, 300, 0, 2);
@@ -346,6 +362,25 @@ public final class ReckonedBoundsTest extends Sentences {
         x.undo();
         due("the one that was kept last, not the one before", x.between(order[3], order[3]), 0);
         due("with its values", x.find(0), 0);
+    }
+
+    @Says(promise = 0, words = {"KEPT is all of THE FILE", "UNDONE: as it was KEPT last."})
+    static void keptPages() {
+        // pages 0 1 2 3 at places 0 1 2 3; behind the split page 2 is at place 1, pages 1 and 3 are bucket 1's
+        SplitBehind x = byHand(1, 2, "n0,7,1");
+        x.keep();
+        x.split();
+        due("page 2 is elsewhere", x.page(2, 1), 1);
+        x.undo();
+        for (int p = 0; p < 4; p++) {
+            due("bucket of page " + p, x.page(p, 0), 0);
+            due("place of page " + p, x.page(p, 1), p);
+            due("keys of page " + p, x.page(p, 2), p < 3 ? 2 : 1);
+            due("first key of page " + p, x.page(p, 10), 2 * p);
+        }
+        due("page 4 is free", x.page(4, 0), -2);
+        due("reads of all finds", x.finds(0), 1 + 1 + 2 + 2 + 3 + 3 + 4);
+        dueRow("reads of one", costOf(x, () -> x.find(5)), 3, 0);
     }
 
     @Says(promise = 0, words = "CHECK: VALUES of KEYS in ORDER: right, or the first that is not so.")

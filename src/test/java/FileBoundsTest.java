@@ -276,6 +276,10 @@ public final class FileBoundsTest extends Sentences {
         due("of 300, the first", full.put(0, 77), 1);
         due("of 300, the last", full.put(299, 78), 1);
         due("its value, of 300", full.find(299), 78);
+        // by k/2 keys 2 and 3 have hash 1, whatever is put of them again
+        SplitBehind again = Texts.made(1, 2, 300, 0, 0, "k/2", "n0,4,1;p2,9;p1,9;s");
+        dueRow("put again and split: those that stay", keysOf(again, 0), 0, 1);
+        dueRow("put again and split: those that go", keysOf(again, 1), 2, 3);
         // load 100 is above 50, but by a key that is there nothing is split
         SplitBehind load = Texts.made(1, 2, 50, 0, 0, "k", "n0,2,1");
         load.put(0, 9);
@@ -432,6 +436,12 @@ public final class FileBoundsTest extends Sentences {
         SplitBehind none = byHand(1, 2, "n0,3,2;s;j");
         dueRow("of an empty one: pages", pagesOf(none, 0), 0, 2);
         due("of an empty one: page 1 is free", none.page(1, 0), -2);
+        // N 2: 1 5 9 | 3 7 11 part at pointer 1; they come back to bucket 1, not to another one
+        SplitBehind second = byHand(2, 2, "n1,6,2;s;s;j");
+        due("pointer 1", second.fileIs(6), 1);
+        dueRow("bucket 1", keysOf(second, 1), 1, 5, 9, 3, 7, 11);
+        dueRow("bucket 0", keysOf(second, 0));
+        dueRow("bucket 2", keysOf(second, 2));
         // a part of a page: 0 2 4 has room for one more
         SplitBehind part = byHand(1, 2, "n0,6,1;s;j");
         dueRow("a page's room is filled first", keysOf(part, 0), 0, 2, 4, 1, 3, 5);
@@ -508,6 +518,8 @@ public final class FileBoundsTest extends Sentences {
         dueRow("2 and 1 ahead, 2 behind", costOf(stay, () -> stay.join()), 3, 2);
         SplitBehind empty = byHand(1, 2, "s");
         dueRow("no keys", costOf(empty, () -> empty.join()), 2, 1);
+        SplitBehind second = byHand(2, 2, "n1,6,2;s;s");
+        dueRow("pointer 1: 2 and 2 ahead, 3 behind", costOf(second, () -> second.join()), 4, 3);
     }
 
     @Says(promise = 0, words = "The constants: NONE = -1: There is none.")

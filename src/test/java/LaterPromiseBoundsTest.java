@@ -123,6 +123,14 @@ public final class LaterPromiseBoundsTest extends Sentences {
         x.shape(1, 2, 80, 40, 1);
         int[] gone = {0, 7, 0, 0};
         for (int what = 0; what <= 3; what++) due("all gone, what " + what, x.since(what), gone[what]);
+        // kept by k in one bucket; then by k+1 in four: 3 and 7 alone are in bucket 0 still
+        SplitBehind law = byHand(1, 2, "n0,9,1");
+        law.keep();
+        law.shape(4, 2, 300, 0, 0);
+        Texts.law(law, "k+1");
+        Texts.work(law, "n0,10,1");
+        int[] byLaws = {1, 0, 0, 7};
+        for (int what = 0; what <= 3; what++) due("by each time's law, what " + what, law.since(what), byLaws[what]);
         SplitBehind empty = byHand(1, 2, "");
         empty.keep();
         Texts.work(empty, ALL_300);

@@ -335,6 +335,12 @@ public final class PromiseBoundsTest extends Sentences {
             due("reads of " + k, x.keyIs(k, 3), reads[k]);
         }
         due("moves of 21, there or not: 63", x.keyIs(21, 2), 5);
+        // by k+1 keys 1 3 5 are in bucket 0, in two pages, and 0 is in bucket 1
+        SplitBehind next = Texts.made(2, 2, 300, 0, 0, "k+1", "n1,3,2;p0,0");
+        due("by its hash: address", next.keyIs(0, 1), 1);
+        due("by its hash: reads of 5", next.keyIs(5, 3), 2);
+        due("by its hash: reads of 7, which is not there", next.keyIs(7, 3), 2);
+        due("by its hash: reads of 4, which is not there", next.keyIs(4, 3), 1);
         due("65535 times 3", x.keyIs(65535, 0), 65533);
         due("reads in an empty bucket", new SplitBehind().keyIs(65535, 3), 1);
         due("reads of the 300th", byHand(1, 2, ALL_300).keyIs(299, 3), 150);
@@ -354,6 +360,9 @@ public final class PromiseBoundsTest extends Sentences {
             }
             for (int key : keys) due("64, key " + key, x.keyIs(key, 4), -3);
         }
+        SplitBehind next = Texts.made(2, 2, 300, 0, 0, "k+1", "");
+        int[] would = {1, 2, 1, 0, 1, 2};
+        for (int key = 0; key < 6; key++) due("by its hash, key " + key, next.keyIs(key, 4), would[key]);
     }
 
     @Says(promise = 12, words = "NONE: no such ones.")
@@ -378,6 +387,8 @@ public final class PromiseBoundsTest extends Sentences {
         for (int b = 3; b <= 11; b++) due("10 in " + b, y.where(10, b), in[b - 3]);
         splitUpTo(y, 20);
         due("fewer than there are", y.where(10, 3), 1);
+        SplitBehind next = Texts.made(3, 2, 300, 0, 0, "k+1", "");
+        due("by its hash", next.where(9, 11), 10);
     }
 
     @Says(promise = 14, words = "Of a BUCKET, what 0 KEYS, 1 PAGES; 100 + i PAGE i of the chain; 1000 + i the KEY at place i of it (100, 1000 and more: there are not so many: -4)")

@@ -283,6 +283,13 @@ public final class ReckonedBoundsTest extends Sentences {
             due("reads of " + k, x.tuned(0), byReads[k]);
             due("places of " + k, x.tuned(1), byPlaces[k]);
         }
+        // three keys by load, C 2 3 4: UP 80 splits 2 and 3, UP 100 splits 2 alone, UP 150 splits none
+        int[][] ups = {{80, 2, 2}, {100, 2, 3}, {150, 3, 3}};
+        for (int[] up : ups) {
+            SplitBehind x = Texts.made(1, 5, up[0], 0, 1, "k", "n0,3,1");
+            due("UP " + up[0] + " as now, reads", x.tuned(0), up[1]);
+            due("UP " + up[0] + " as now, places", x.tuned(1), up[2]);
+        }
         for (int n = 1; n <= 4; n++) {
             for (int policy = 0; policy <= 2; policy++) {
                 SplitBehind x = Texts.made(n, 4, 90, 30, policy, "k*5+2", "n3,45,7;n1000,60,1;s;s");
@@ -326,6 +333,8 @@ public final class ReckonedBoundsTest extends Sentences {
         due("one of both is not enough", byHand(1, 2, "p5,0").passed(4096), 0);
         // in two buckets 5's is 1: of it those with 5 modulo 16 (0 is even)
         due("of its own bucket", byHand(2, 2, "p5,0").passed(0), 16 - 1);
+        // by k/2 key 10 has hash 5, in bucket 1: of hashes 0 to 127 those with 5 modulo 16, two keys each, but for 10
+        due("by its hash", Texts.made(2, 2, 300, 0, 0, "k/2", "p10,0").passed(0), 16 - 1);
         due("all bits: all that are not there", Texts.made(1, 2, 300, 0, 0, "k*257", ALL_300).passed(1000), 256);
     }
 

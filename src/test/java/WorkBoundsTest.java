@@ -80,12 +80,20 @@ public final class WorkBoundsTest extends Sentences {
         due("put: the value 255", x.find(0), 255);
         due("put: the key 65535", x.find(65535), 0);
         dueRow("find costs reads", costOf(x, () -> Texts.work(x, "g7")), 2, 0);
+        dueRow("find in the first page", costOf(x, () -> Texts.work(x, "g0;g65535")), 2, 0);
+        dueRow("find of one that is not there", costOf(x, () -> Texts.work(x, "g1")), 2, 0);
         dueRow("drop", costOf(x, () -> Texts.work(x, "d65535")), 2, 2);
         due("65535 is gone", x.between(65535, 65535), 0);
         Texts.work(x, "s");
         due("split", x.count(1), 2);
         Texts.work(x, "j");
         due("join", x.count(1), 1);
+        SplitBehind y = byHand(1, 2, "n0,9,7;n1,9,7;n2,9,7;n3,9,7;n4,9,7");
+        y.shape(1, 2, 300, 0, 0);
+        Texts.work(y, "j;s;g5;d5;j");
+        due("steps have nothing of the steps that were before them", y.count(0), 0);
+        due("one split", y.fileIs(15), 1);
+        due("one join", y.fileIs(16), 1);
     }
 
     @Says(promise = 0, words = "nK,M,S (PUT of K, K + S, .. modulo 65536, M of them, M 1 to 60, S 0 to 9999; each with VALUE KEY modulo 256)")

@@ -104,6 +104,11 @@ public final class ReckonedBoundsTest extends Sentences {
         SplitBehind x = byHand(2, 2, "n0,9,1");
         splitUpTo(x, 40);
         due("whatever there is now", x.keyIs(63, 2), 5);
+        SplitBehind other = byHand(4, 2, "");
+        other.keep();
+        other.grown(1, 0);
+        other.shape(1, 2, 300, 0, 0);
+        due("by N as it is, not as it was kept", other.keyIs(63, 2), 6);
     }
 
     @Says(promise = 0, words = "PARTED are two KEYS by the least B by which they are not in one BUCKET.")
